@@ -88,7 +88,7 @@ public final class QuorumGate {
     }
 
     public int within(int node, int m) {
-        if (!isNode(node) || m < 2 || m > 8 || sets.count - 1 + m > MOST_NODES) {
+        if (!sets.isNode(node) || m < 2 || m > 8 || sets.count - 1 + m > MOST_NODES) {
             return NONE;
         }
         sets.makeWithin(node, m);
@@ -96,7 +96,7 @@ public final class QuorumGate {
     }
 
     public int base(int node, int set) {
-        if (!isNode(node) || set == 0 || !isSetOfNodes(set)) {
+        if (!sets.isNode(node) || set == 0 || !sets.isSetOfNodes(set)) {
             return NONE;
         }
         sets.tellByHand(node, set);
@@ -105,7 +105,7 @@ public final class QuorumGate {
     }
 
     public int quorum(int node, int what) {
-        if (!isNode(node)) {
+        if (!sets.isNode(node)) {
             return NONE;
         }
         switch (what) {
@@ -117,7 +117,7 @@ public final class QuorumGate {
     }
 
     public int meeting(int a, int b) {
-        if (!isNode(a) || !isNode(b)) {
+        if (!sets.isNode(a) || !sets.isNode(b)) {
             return NONE;
         }
         return lowest(sets.bases[a] & sets.bases[b]);
@@ -128,7 +128,7 @@ public final class QuorumGate {
     }
 
     public int load(int node) {
-        return isNode(node) ? sets.loadOf(node) : NONE;
+        return sets.isNode(node) ? sets.loadOf(node) : NONE;
     }
 
     public boolean stops(int set) {
@@ -140,7 +140,8 @@ public final class QuorumGate {
             return NONE;
         }
         surveyOnce();
-        return what == 0 ? survey.fewestStops : survey.leastStop;
+        int least = survey.enough.leastStop();
+        return what == 0 ? Integer.bitCount(least) : least;
     }
 
     public int needless() {
@@ -152,11 +153,11 @@ public final class QuorumGate {
             return NONE;
         }
         surveyOnce();
-        return survey.millionths(MOST_NODES, odds, sets.count);
+        return survey.millionths(NONE, odds, sets.count);
     }
 
     public int chanceOf(int node, int odds) {
-        if (!isNode(node) || odds < 0 || odds > MOST_ODDS) {
+        if (!sets.isNode(node) || odds < 0 || odds > MOST_ODDS) {
             return NONE;
         }
         surveyOnce();
@@ -173,11 +174,11 @@ public final class QuorumGate {
     }
 
     public int pivotal(int node) {
-        if (!isNode(node)) {
+        if (!sets.isNode(node)) {
             return NONE;
         }
         surveyOnce();
-        return survey.turned[node];
+        return survey.live.turnedBy(node);
     }
 
     public boolean fair() {
@@ -186,11 +187,11 @@ public final class QuorumGate {
 
     public int better() {
         surveyOnce();
-        return survey.leastBetter;
+        return survey.live.leastBetter();
     }
 
     public int ask(int node) {
-        if (!isNode(node) || !hall.mayAsk(node)) {
+        if (!sets.isNode(node) || !hall.mayAsk(node)) {
             return NONE;
         }
         hall.startAsking(node);
@@ -198,7 +199,7 @@ public final class QuorumGate {
     }
 
     public boolean leave(int node) {
-        if (!isNode(node) || !has(hall.inside, node)) {
+        if (!sets.isNode(node) || !has(hall.inside, node)) {
             return false;
         }
         hall.finish(node);
@@ -206,11 +207,11 @@ public final class QuorumGate {
     }
 
     public int bring(int from, int to) {
-        return isNode(from) && isNode(to) ? hall.bringFirst(from, to) : NONE;
+        return hall.bringFirst(from, to);
     }
 
     public boolean withdraw(int node) {
-        if (!isNode(node) || !has(hall.asking, node)) {
+        if (!sets.isNode(node) || !has(hall.asking, node)) {
             return false;
         }
         hall.finish(node);
@@ -218,7 +219,7 @@ public final class QuorumGate {
     }
 
     public boolean breakDown(int node) {
-        if (!isNode(node) || hall.howIs(node) != IDLE || has(hall.broken, node)) {
+        if (!sets.isNode(node) || hall.howIs(node) != IDLE || has(hall.broken, node)) {
             return false;
         }
         hall.breakNode(node);
@@ -226,7 +227,7 @@ public final class QuorumGate {
     }
 
     public boolean mend(int node) {
-        if (!isNode(node) || !has(hall.broken, node) || !hall.isStill()) {
+        if (!sets.isNode(node) || !has(hall.broken, node) || !hall.isStill()) {
             return false;
         }
         hall.mendNode(node);
@@ -234,7 +235,7 @@ public final class QuorumGate {
     }
 
     public int node(int node, int what) {
-        if (!isNode(node)) {
+        if (!sets.isNode(node)) {
             return NONE;
         }
         Place place = hall.places[node];
@@ -252,7 +253,7 @@ public final class QuorumGate {
     }
 
     public int arbiter(int node, int what) {
-        if (!isNode(node)) {
+        if (!sets.isNode(node)) {
             return NONE;
         }
         Place place = hall.places[node];
@@ -266,7 +267,7 @@ public final class QuorumGate {
     }
 
     public int waiting(int node, int i, int what) {
-        if (!isNode(node) || what < 0 || what > 1) {
+        if (!sets.isNode(node) || what < 0 || what > 1) {
             return NONE;
         }
         Place place = hall.places[node];
@@ -278,7 +279,7 @@ public final class QuorumGate {
     }
 
     public int way(int from, int to, int k) {
-        if (!isNode(from) || !isNode(to)) {
+        if (!sets.isNode(from) || !sets.isNode(to)) {
             return NONE;
         }
         return k == NONE ? hall.post.countOn(from, to) : hall.post.kindAt(from, to, k);
@@ -304,7 +305,7 @@ public final class QuorumGate {
     }
 
     public int handled(int node) {
-        return isNode(node) ? hall.places[node].handled : NONE;
+        return sets.isNode(node) ? hall.places[node].handled : NONE;
     }
 
     public int sent(int kind) {
@@ -319,11 +320,11 @@ public final class QuorumGate {
     }
 
     public int waitsFor(int node) {
-        return isNode(node) && has(hall.asking, node) ? hall.awaitedBy(node) : NONE;
+        return sets.isNode(node) && has(hall.asking, node) ? hall.awaitedBy(node) : NONE;
     }
 
     public int unheard(int node) {
-        if (!isNode(node) || !has(hall.asking, node)) {
+        if (!sets.isNode(node) || !has(hall.asking, node)) {
             return NONE;
         }
         Place place = hall.places[node];
@@ -363,7 +364,7 @@ public final class QuorumGate {
     }
 
     public int entersBy(int node, int seed) {
-        if (!isNode(node) || seed < 0) {
+        if (!sets.isNode(node) || seed < 0) {
             return NONE;
         }
         trial.copyFrom(hall);
@@ -387,7 +388,7 @@ public final class QuorumGate {
     }
 
     public int searchedBy(int askers, int states, int what) {
-        if (!isSetOfNodes(askers) || states < 1 || states > MOST_STATES) {
+        if (!sets.isSetOfNodes(askers) || states < 1 || states > MOST_STATES) {
             return NONE;
         }
         search.run(hall, askers, states);
@@ -395,7 +396,7 @@ public final class QuorumGate {
     }
 
     public boolean delay(int from, int to, int way) {
-        if (!isNode(from) || !isNode(to) || way < 1 || way > LONGEST_WAY) {
+        if (!sets.isNode(from) || !sets.isNode(to) || way < 1 || way > LONGEST_WAY) {
             return false;
         }
         clockwork.ways[from * MOST_NODES + to] = way;
@@ -403,7 +404,7 @@ public final class QuorumGate {
     }
 
     public int timed(int hold, int node, int what) {
-        if (hold < 1 || hold > LONGEST_HOLD || !isNode(node) || what < 0 || what > 4) {
+        if (hold < 1 || hold > LONGEST_HOLD || !sets.isNode(node) || what < 0 || what > 4) {
             return NONE;
         }
         trial.copyFrom(hall);
@@ -418,7 +419,7 @@ public final class QuorumGate {
     }
 
     public int soonest(int node, int states) {
-        if (!isNode(node) || states < 1 || states > MOST_STATES) {
+        if (!sets.isNode(node) || states < 1 || states > MOST_STATES) {
             return NONE;
         }
         search.run(hall, 0, states);
@@ -502,14 +503,6 @@ public final class QuorumGate {
             most = Math.max(most, newEntries(v));
         }
         return most;
-    }
-
-    private boolean isNode(int node) {
-        return node >= 0 && node < sets.count;
-    }
-
-    private boolean isSetOfNodes(int set) {
-        return (set & ~sets.allNodes()) == 0;
     }
 
     private static boolean has(int set, int node) {
@@ -686,6 +679,14 @@ public final class QuorumGate {
             return (1 << count) - 1;
         }
 
+        boolean isNode(int node) {
+            return node >= 0 && node < count;
+        }
+
+        boolean isSetOfNodes(int set) {
+            return (set & ~allNodes()) == 0;
+        }
+
         int quorumNow(int node, int broken) {
             if ((bases[node] & broken) == 0) {
                 return bases[node];
@@ -806,85 +807,190 @@ public final class QuorumGate {
             }
             return set;
         }
+    }
 
-        boolean isLive(int set) {
-            return firstUnbroken(~set) != 0;
+    /** A bit for each set of nodes: a family that has with a set each greater one that holds it, too. */
+    private static final class Family {
+        // The place of a bit in its word tells which of the nodes 0 .. 5 the set has, the word which others.
+        private static final int LOW_NODES = 6;
+        private static final int MOST_WORDS = 1 << (MOST_NODES - LOW_NODES);
+        private static final long[] HAVING = {
+            0xaaaaaaaaaaaaaaaaL, 0xccccccccccccccccL, 0xf0f0f0f0f0f0f0f0L,
+            0xff00ff00ff00ff00L, 0xffff0000ffff0000L, 0xffffffff00000000L,
+        };
+        private static final long[] OF_SIZE = {
+            0x1L, 0x100010116L, 0x1011601161668L, 0x116166816686880L,
+            0x1668688068808000L, 0x6880800080000000L, 0x8000000000000000L,
+        };
+
+        final long[] words = new long[MOST_WORDS];
+        int count;
+        int used;
+
+        void begin(int nodes) {
+            count = nodes;
+            used = nodes > LOW_NODES ? 1 << (nodes - LOW_NODES) : 1;
+            Arrays.fill(words, 0);
         }
 
-        boolean touchesEachBase(int set) {
-            for (int v = 0; v < count; v++) {
-                if ((bases[v] & set) == 0) {
-                    return false;
+        void add(int set) {
+            words[set >> LOW_NODES] |= 1L << (set & 63);
+        }
+
+        void addGreater() {
+            for (int v = 0; v < LOW_NODES && v < count; v++) {
+                for (int w = 0; w < used; w++) {
+                    words[w] |= (words[w] & ~HAVING[v]) << (1 << v);
                 }
             }
-            return true;
+            for (int bit = 1; bit < used; bit = bit * 2) {
+                for (int w = 0; w < used; w++) {
+                    if ((w & bit) != 0) {
+                        words[w] |= words[w ^ bit];
+                    }
+                }
+            }
+        }
+
+        /** Of a word the sets whose rest, all other nodes, is none of the family. */
+        private long withoutRest(int w) {
+            int width = count < LOW_NODES ? 1 << count : 64;
+            return ~Long.reverse(words[used - 1 - w]) >>> (64 - width);
+        }
+
+        int leastStop() {
+            int least = NONE;
+            int fewest = MOST_NODES + 1;
+            for (int w = 0; w < used; w++) {
+                long stops = withoutRest(w);
+                for (int low = 0; low <= LOW_NODES; low++) {
+                    int size = Integer.bitCount(w) + low;
+                    if (size < fewest && (stops & OF_SIZE[low]) != 0) {
+                        fewest = size;
+                        least = w << LOW_NODES | Long.numberOfTrailingZeros(stops & OF_SIZE[low]);
+                    }
+                }
+            }
+            return least;
+        }
+
+        // A set has a node in common with each base if its rest has no base within it.
+        int leastBetter() {
+            for (int w = 0; w < used; w++) {
+                long better = ~words[w] & withoutRest(w);
+                if (better != 0) {
+                    return w << LOW_NODES | Long.numberOfTrailingZeros(better);
+                }
+            }
+            return NONE;
+        }
+
+        /** Of a word the sets of the family with a node, or, of NONE, all. */
+        private long having(int w, int node) {
+            if (node < 0) {
+                return words[w];
+            }
+            if (node < LOW_NODES) {
+                return words[w] & HAVING[node];
+            }
+            return (w >> (node - LOW_NODES) & 1) != 0 ? words[w] : 0;
+        }
+
+        /** Each set of the family with a node (NONE: each) counts what its size weighs. */
+        long weigh(int node, long[] weights) {
+            long all = 0;
+            for (int w = 0; w < used; w++) {
+                long here = having(w, node);
+                for (int low = 0; low <= LOW_NODES && here != 0; low++) {
+                    all += Long.bitCount(here & OF_SIZE[low]) * weights[Integer.bitCount(w) + low];
+                }
+            }
+            return all;
+        }
+
+        // Each set of the family without a node is there with it, too: the others with it are those that it turns.
+        int turnedBy(int node) {
+            int turned = 0;
+            for (int w = 0; w < used; w++) {
+                turned += 2 * Long.bitCount(having(w, node)) - Long.bitCount(words[w]);
+            }
+            return turned;
         }
     }
 
-    /** What is told by looking at every set of nodes: taken once for each choice of bases. */
+    /** What is told of all sets of nodes: taken once for each choice of bases. */
     private static final class Survey {
-        private static final int SIZES = MOST_NODES + 1;
+        // Of a tree of 15 nodes: 255 of the root, 15 each of the two below it, and so on down.
+        private static final int MOST_WHOLES = 305;
 
-        // Sets that leave somebody a quorum, by size: a row for each node in them, the last for all.
-        final long[] enough = new long[SIZES * SIZES];
-        final int[] turned = new int[MOST_NODES];
-        int fewestStops;
-        int leastStop;
-        int leastBetter;
+        final Family live = new Family();
+        final Family enough = new Family();
+        final long[] cases = new long[MOST_NODES + 1];
+        final int[] wholes = new int[MOST_WHOLES];
+        final int[] starts = new int[MOST_NODES];
+        final int[] ends = new int[MOST_NODES];
+        int listed;
         boolean taken;
 
         void take(Sets sets) {
-            Arrays.fill(enough, 0);
-            Arrays.fill(turned, 0);
-            fewestStops = SIZES;
-            leastStop = NONE;
-            leastBetter = NONE;
-            int all = sets.allNodes();
-            for (int set = 0; set <= all; set++) {
-                if (sets.someQuorum(all & ~set)) {
-                    addEnough(set, sets.count);
-                }
-                if (Integer.bitCount(set) < fewestStops && !sets.someQuorum(set)) {
-                    fewestStops = Integer.bitCount(set);
-                    leastStop = set;
-                }
-                if (sets.isLive(set)) {
-                    addLive(set, sets.count);
-                } else if (leastBetter == NONE && sets.touchesEachBase(set)) {
-                    leastBetter = set;
-                }
+            live.begin(sets.count);
+            enough.begin(sets.count);
+            for (int v = 0; v < sets.count; v++) {
+                live.add(sets.bases[v]);
+                enough.add(sets.bases[v]);
             }
+            if (sets.tree) {
+                addWholes(sets.count);
+            }
+            live.addGreater();
+            enough.addGreater();
             taken = true;
         }
 
-        private void addEnough(int set, int count) {
-            int size = Integer.bitCount(set);
-            enough[MOST_NODES * SIZES + size]++;
-            for (int v = 0; v < count; v++) {
-                if (has(set, v)) {
-                    enough[v * SIZES + size]++;
+        private void addWholes(int count) {
+            listed = 0;
+            for (int v = count - 1; v >= 0; v--) {
+                starts[v] = listed;
+                if (2 * v + 2 < count) {
+                    listWholes(v, 2 * v + 1, 2 * v + 2);
+                } else {
+                    listWhole(1 << v);
+                }
+                ends[v] = listed;
+            }
+            for (int i = starts[0]; i < ends[0]; i++) {
+                enough.add(wholes[i]);
+            }
+        }
+
+        private void listWholes(int v, int first, int second) {
+            for (int i = starts[first]; i < ends[first]; i++) {
+                listWhole(1 << v | wholes[i]);
+                for (int k = starts[second]; k < ends[second]; k++) {
+                    listWhole(wholes[i] | wholes[k]);
                 }
             }
-        }
-
-        // A live set stays live with one more node, so those that a node turns are
-        // the live ones with it less the live ones without it.
-        private void addLive(int set, int count) {
-            for (int v = 0; v < count; v++) {
-                turned[v] += has(set, v) ? 1 : -1;
+            for (int k = starts[second]; k < ends[second]; k++) {
+                listWhole(1 << v | wholes[k]);
             }
         }
 
-        int millionths(int row, int odds, int count) {
-            long cases = 0;
+        private void listWhole(int set) {
+            if (listed < MOST_WHOLES) {
+                wholes[listed] = set;
+                listed++;
+            }
+        }
+
+        int millionths(int node, int odds, int count) {
             for (int size = 0; size <= count; size++) {
-                long each = power(MOST_ODDS - odds, size) * power(odds, count - size);
-                cases += enough[row * SIZES + size] * each;
+                cases[size] = power(MOST_ODDS - odds, size) * power(odds, count - size);
             }
-            if (count >= 6) {
-                return (int) (cases / Math.max(1, power(10, count - 6)));
+            long all = enough.weigh(node, cases);
+            if (count < 6) {
+                return (int) (all * power(10, 6 - count));
             }
-            return (int) (cases * power(10, 6 - count));
+            return (int) (all / Math.max(1, power(10, count - 6)));
         }
 
         private static long power(int of, int times) {
@@ -1183,7 +1289,7 @@ public final class QuorumGate {
             cells[at + 2] = c;
             cells[at + 3] = d;
             next = next + 1 < most ? next + 1 : 0;
-            held = Math.min(held + 1, most);
+            held = held < most ? held + 1 : most;
         }
 
         int tell(int ago, int what) {
@@ -1241,7 +1347,7 @@ public final class QuorumGate {
             overtaken = 0;
             mostLetters = 0;
             mostWaited = 0;
-            renewQuorums();
+            System.arraycopy(sets.bases, 0, quorums, 0, MOST_NODES);
         }
 
         private void renewQuorums() {
@@ -1368,7 +1474,7 @@ public final class QuorumGate {
         }
 
         int bringFirst(int from, int to) {
-            int letter = post.takeFirst(from, to);
+            int letter = sets.isNode(from) && sets.isNode(to) ? post.takeFirst(from, to) : NONE;
             if (letter == NONE) {
                 return NONE;
             }
@@ -1626,9 +1732,9 @@ public final class QuorumGate {
         // What is sent meanwhile goes now, so it is never among what went before.
         private void bringDue(Hall hall, int way, int went) {
             for (int from = 0; from < hall.sets.count; from++) {
-                for (int to = 0; to < hall.sets.count; to++) {
-                    boolean mayBeDue = ways[from * MOST_NODES + to] == way;
-                    for (int k = mayBeDue ? hall.post.countOn(from, to) : 0; k > 0; k--) {
+                for (int to = 0; to < hall.sets.count && hall.post.busy[from] != 0; to++) {
+                    boolean isSoFar = ways[from * MOST_NODES + to] == way;
+                    for (int k = isSoFar ? hall.post.countOn(from, to) : 0; k > 0; k--) {
                         if (hall.post.hasGoneBy(from, to, went)) {
                             hall.bringFirst(from, to);
                         }
@@ -1867,7 +1973,7 @@ public final class QuorumGate {
         }
 
         private int pull() {
-            int value = cells[reading];
+            int value = reading < end ? cells[reading] : 0;
             reading++;
             return value;
         }
