@@ -25,6 +25,8 @@ final class AskTest {
         inquiringOnce();
         failingTheFormerFirst();
         notFailingOneBehind();
+        failingTwice();
+        doubtingToTheEnd();
         inquiringWithFails();
         yieldingAll();
         staleLetters();
@@ -33,6 +35,7 @@ final class AskTest {
         breaking();
         breakingWithoutQuorum();
         breakingOneThatWaited();
+        breakingOneThatIsGranted();
         breakingWhileInside();
         breakingForgetsInquiry();
         mending();
@@ -348,6 +351,45 @@ final class AskTest {
         Check.due("second waiting", x.waiting(1, 1, 0), 2);
     }
 
+    private static void failingTwice() {
+        QuorumGate x = three();
+        x.ask(0);
+        bring(x, 0, 0, REQUEST);
+        bring(x, 0, 1, REQUEST);
+        x.ask(2);
+        bring(x, 2, 0, REQUEST);
+        bring(x, 2, 1, REQUEST);
+        bring(x, 0, 2, REQUEST);
+        bring(x, 0, 2, FAIL);
+        asker(x, 2, 1, 0, 0, 1);
+        bring(x, 1, 2, FAIL);
+        asker(x, 2, 1, 0, 0, 3);
+    }
+
+    /** Who has doubts may come to be inside, or withdraw: then it has none. */
+    private static void doubtingToTheEnd() {
+        for (int ending = 0; ending < 2; ending++) {
+            QuorumGate x = two();
+            x.ask(1);
+            x.ask(0);
+            bring(x, 1, 1, REQUEST);
+            bring(x, 0, 1, REQUEST);
+            bring(x, 1, 1, GRANT);
+            bring(x, 1, 1, INQUIRE);
+            asker(x, 1, 1, 2, 2, 0);
+            if (ending == 0) {
+                bring(x, 1, 0, REQUEST);
+                bring(x, 0, 1, GRANT);
+                asker(x, 1, 2, 3, 0, 0);
+            } else {
+                x.withdraw(1);
+                asker(x, 1, 0, 0, 0, 0);
+                x.ask(1);
+                asker(x, 1, 1, 0, 0, 0);
+            }
+        }
+    }
+
     /** One that comes ahead of whom is granted, but not first, fails. */
     private static void inquiringWithFails() {
         QuorumGate x = three();
@@ -551,6 +593,22 @@ final class AskTest {
         arbiter(x, 2, 2, 1, 1, 0);
         Check.due("the others ask as before", x.is(3), 6);
         Check.due("in use as before", x.quorum(1, 2), 6);
+    }
+
+    private static void breakingOneThatIsGranted() {
+        QuorumGate x = three();
+        x.base(1, 2);
+        x.ask(0);
+        bring(x, 0, 1, REQUEST);
+        x.withdraw(0);
+        arbiter(x, 1, 0, 1, 0, 0);
+        x.breakDown(0);
+        arbiter(x, 1, -1, -1, 0, 0);
+        Check.due("nothing is left", x.is(1), 0);
+        Check.due("by its own base", x.ask(1), 2);
+        bring(x, 1, 1, REQUEST);
+        bring(x, 1, 1, GRANT);
+        asker(x, 1, 2, 2, 0, 0);
     }
 
     private static void breakingWhileInside() {

@@ -271,7 +271,11 @@ final class CountTest {
         row(x, 1, 0, 1, 4, 4);
         Check.due("the node", x.book(0, 0), 1);
         Check.due("its stamp", x.book(0, 1), 2);
-        for (int ago : new int[] {-2, 2, 30, Integer.MAX_VALUE, Integer.MIN_VALUE}) {
+        x.ask(0);
+        x.goOn(0, 500);
+        // Counted from the latest asking on: four letters again.
+        row(x, 0, 0, 3, 4, 4);
+        for (int ago : new int[] {-2, 3, 30, Integer.MAX_VALUE, Integer.MIN_VALUE}) {
             Check.due("book(" + ago + ", 0)", x.book(ago, 0), -2);
         }
         for (int what : new int[] {-1, 4, 5, Integer.MAX_VALUE, Integer.MIN_VALUE}) {
@@ -392,6 +396,15 @@ final class CountTest {
         x.bring(2, 2);
         Check.due("two at 2", x.crowded(0), 2);
         Check.due("two", x.crowded(1), 2);
+        QuorumGate y = two();
+        y.ask(1);
+        y.bring(1, 0);
+        y.ask(0);
+        y.bring(0, 0);
+        Check.due("at 0", y.crowded(0), 0);
+        y.bring(1, 1);
+        y.bring(0, 1);
+        Check.due("at both", y.crowded(0), 0);
         for (int what : new int[] {-1, 2, 3, Integer.MAX_VALUE, Integer.MIN_VALUE}) {
             Check.due("crowded(" + what + ")", x.crowded(what), -1);
         }

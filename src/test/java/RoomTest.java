@@ -24,7 +24,7 @@ final class RoomTest {
     }
 
     private static long made() {
-        return THREADS.getThreadAllocatedBytes(Thread.currentThread().getId());
+        return THREADS.getCurrentThreadAllocatedBytes();
     }
 
     public static void main(String[] args) throws Exception {

@@ -254,6 +254,19 @@ final class SetsTest {
             }
             isAsAtFirst(x, "made anew by " + how);
         }
+        QuorumGate x = new QuorumGate();
+        x.majority(2);
+        x.base(0, 1);
+        x.base(1, 2);
+        x.ask(0);
+        x.ask(1);
+        x.bring(1, 1);
+        x.bring(1, 1);
+        x.goOn(0, 2);
+        Check.due("two inside", x.is(7), 1);
+        Check.due("one overtook", x.is(11), 1);
+        x.base(0, 1);
+        isAsAtFirst(x, "behind two inside");
     }
 
     /** An entry, somebody asking, letters, something broken, ways. */
@@ -416,6 +429,15 @@ final class SetsTest {
             x.base(v, 1 << 15);
         }
         weakest(x, "all on the last", 1 << 15);
+        for (int v = 0; v < 16; v++) {
+            x.base(v, 1 << v);
+        }
+        weakest(x, "each alone", 65535);
+        x.majority(7);
+        for (int v = 0; v < 7; v++) {
+            x.base(v, 1 << v % 6);
+        }
+        weakest(x, "the first six", 63);
         for (int what : new int[] {-1, 2, 3, Integer.MAX_VALUE, Integer.MIN_VALUE}) {
             Check.due("weakest(" + what + ")", x.weakest(what), -1);
         }
@@ -472,6 +494,12 @@ final class SetsTest {
         x.tree(4);
         // 0.9 (1 - 0.0062272^2) + 0.1 * 0.9937728^2 = 0.998723...
         Check.due("tree(4), cut", x.chance(1), 998723);
+        for (int v = 0; v < 15; v++) {
+            x.base(v, 1 << 14);
+        }
+        Check.due("the last alone", x.chance(3), 700000);
+        Check.due("the last alone", x.chanceOf(14, 3), 700000);
+        Check.due("another with it", x.chanceOf(0, 3), 490000);
         for (int odds : new int[] {-1, 11, 100, Integer.MAX_VALUE, Integer.MIN_VALUE}) {
             Check.due("chance(" + odds + ")", x.chance(odds), -1);
         }

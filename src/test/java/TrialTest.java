@@ -142,6 +142,7 @@ final class TrialTest {
         Check.due("nobody asks", x.entersBy(0, 1), -1);
         x.ask(0);
         Check.due("six", x.entersBy(0, 1), 6);
+        Check.due("by seed 0", x.entersBy(0, 0), 6);
         Check.due("another one", x.entersBy(1, 1), -1);
         x.bring(0, 2);
         Check.due("five", x.entersBy(0, 1), 5);
@@ -168,7 +169,12 @@ final class TrialTest {
         x.withdraw(0);
         x.ask(0);
         Check.due("not by then", x.entersBy(0, 7), -1);
-        Check.due("moves", x.goOn(7, 500), 500);
+        x.bring(0, 0);
+        x.bring(0, 0);
+        Check.due("one too many", x.entersBy(0, 7), -1);
+        x.bring(0, 0);
+        Check.due("the last again", x.entersBy(0, 7), 500);
+        Check.due("moves", x.goOn(7, 497), 497);
         Check.due("not yet", x.is(2), 0);
         Check.due("three more", x.entersBy(0, 7), 3);
     }
@@ -191,6 +197,7 @@ final class TrialTest {
         searched(x, "one", -1, 4, 4, 0, 0, 1, 0, 3);
         searched(x, "one", -1, 1, 1, 0, 0, 1, 0, 0);
         searched(x, "one, by nobody", 0, 40, 5, 0, 0, 1, 1, 4);
+        searched(x, "one, by nobody", 0, 1, 1, 0, 0, 1, 0, 0);
     }
 
     /** Two that have nothing to do with each other: 5 by 5 states, with asking 6 by 6. */
@@ -268,6 +275,9 @@ final class TrialTest {
         Check.due("by two", x.soonest(0, 40), 2);
         Check.due("by two of three", x.soonest(0, 3), 2);
         Check.due("of two none", x.soonest(0, 2), -1);
+        for (int states : new int[] {-1, 0, 41, 42, Integer.MAX_VALUE, Integer.MIN_VALUE}) {
+            Check.due("soonest(0, " + states + ")", x.soonest(0, states), -1);
+        }
         Check.due("the other", x.soonest(1, 40), -1);
         x.goOn(0, 2);
         Check.due("it is", x.soonest(0, 1), 0);
@@ -443,6 +453,9 @@ final class TrialTest {
         crowd(x, 1, 5, 2, 1, 1, 0, 6, 4);
         // 1 leaves; it asks again, (0, 0); (1, 1); (0, 0); (0, 0): 0 is in.
         crowd(x, 1, 10, 3, 1, 2, 0, 9, 6);
+        // By seed 0 the draws are of 0, 21468, 9988: (0, 0); (0, 0): 0 is in; (1, 1).
+        crowd(x, 0, 2, 1, 0, 1, 0, 3, 2);
+        crowd(x, 0, 3, 1, 0, 1, 0, 4, 2);
         Check.due("all is as ahead", x.is(3) + x.is(5) + x.sent(6), 0);
     }
 
