@@ -509,8 +509,8 @@ public final class QuorumGate {
         return (set >> node & 1) != 0;
     }
 
-    private static int lowest(int set) {
-        return set == 0 ? NONE : Integer.numberOfTrailingZeros(set);
+    private static int lowest(long bits) {
+        return bits == 0 ? NONE : Long.bitCount((bits & -bits) - 1);
     }
 
     /** The node that stands i-th in a set, rising. */
@@ -854,8 +854,12 @@ public final class QuorumGate {
 
         /** Of a word the sets whose rest, all other nodes, is none of the family. */
         private long withoutRest(int w) {
-            int width = count < LOW_NODES ? 1 << count : 64;
-            return ~Long.reverse(words[used - 1 - w]) >>> (64 - width);
+            long rests = words[used - 1 - w];
+            for (int v = 0; v < LOW_NODES && v < count; v++) {
+                rests = (rests & HAVING[v]) >>> (1 << v) | (rests & ~HAVING[v]) << (1 << v);
+            }
+            long all = count < LOW_NODES ? (1L << (1 << count)) - 1 : -1L;
+            return all & ~rests;
         }
 
         int leastStop() {
@@ -867,7 +871,7 @@ public final class QuorumGate {
                     int size = Integer.bitCount(w) + low;
                     if (size < fewest && (stops & OF_SIZE[low]) != 0) {
                         fewest = size;
-                        least = w << LOW_NODES | Long.numberOfTrailingZeros(stops & OF_SIZE[low]);
+                        least = w << LOW_NODES | lowest(stops & OF_SIZE[low]);
                     }
                 }
             }
@@ -879,7 +883,7 @@ public final class QuorumGate {
             for (int w = 0; w < used; w++) {
                 long better = ~words[w] & withoutRest(w);
                 if (better != 0) {
-                    return w << LOW_NODES | Long.numberOfTrailingZeros(better);
+                    return w << LOW_NODES | lowest(better);
                 }
             }
             return NONE;

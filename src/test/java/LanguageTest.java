@@ -25,7 +25,7 @@ final class LanguageTest {
     };
     private static final String[] LIBRARY = {
         "System.arraycopy", "Arrays.copyOf", "Arrays.fill", "Math.max", "Math.min", "Integer.bitCount",
-        "Integer.numberOfTrailingZeros", "Long.bitCount", "Long.numberOfTrailingZeros", "Long.reverse",
+        "Long.bitCount",
     };
 
     private LanguageTest() {
