@@ -596,6 +596,17 @@ final class SetsTest {
         x.base(3, 12);
         Check.due("like loads, unlike sizes", x.load(0) + 10 * x.load(1) + 100 * x.load(2) + 1000 * x.load(3), 3333);
         Check.due("like loads, unlike sizes", x.fair(), false);
+        x.majority(2);
+        x.base(0, 1);
+        x.base(1, 1);
+        Check.due("like sizes, the load of 0 unlike", x.fair(), false);
+        x.base(0, 2);
+        Check.due("each the other's", x.fair(), true);
+        x.majority(3);
+        x.base(0, 3);
+        x.base(1, 3);
+        x.base(2, 3);
+        Check.due("like sizes, the load of the last unlike", x.fair(), false);
     }
 
     private static void betterOnes() {
