@@ -28,16 +28,6 @@ final class CountTest {
         Check.end("CountTest");
     }
 
-    /** So many nodes, each alone in its base. */
-    private static QuorumGate alone(int n) {
-        QuorumGate x = new QuorumGate();
-        x.majority(n);
-        for (int v = 0; v < n; v++) {
-            x.base(v, 1 << v);
-        }
-        return x;
-    }
-
     /** Two nodes, each in the base of each. */
     private static QuorumGate two() {
         QuorumGate x = new QuorumGate();
@@ -90,7 +80,7 @@ final class CountTest {
     }
 
     private static void entriesAndWaits() {
-        QuorumGate x = alone(3);
+        QuorumGate x = Gates.alone(3);
         enterAlone(x, 0);
         Check.due("entries", x.is(5), 1);
         Check.due("bringings", x.is(6), 2);
@@ -118,7 +108,7 @@ final class CountTest {
     }
 
     private static void twoInside() {
-        QuorumGate x = alone(3);
+        QuorumGate x = Gates.alone(3);
         enterAlone(x, 0);
         Check.due("one", x.is(7), 0);
         enterAlone(x, 1);
@@ -135,7 +125,7 @@ final class CountTest {
     }
 
     private static void overtaking() {
-        QuorumGate x = alone(3);
+        QuorumGate x = Gates.alone(3);
         x.ask(0);
         x.withdraw(0);
         x.ask(0);
@@ -152,17 +142,17 @@ final class CountTest {
     }
 
     private static void likeStamps() {
-        QuorumGate x = alone(2);
+        QuorumGate x = Gates.alone(2);
         x.ask(0);
         enterAlone(x, 1);
         Check.due("the lesser node is ahead", x.is(11), 1);
         x.goOn(0, 500);
         Check.due("it overtook nobody", x.is(11), 1);
-        QuorumGate y = alone(2);
+        QuorumGate y = Gates.alone(2);
         y.ask(1);
         enterAlone(y, 0);
         Check.due("the greater node is not", y.is(11), 0);
-        QuorumGate z = alone(2);
+        QuorumGate z = Gates.alone(2);
         z.ask(0);
         z.goOn(0, 2);
         z.ask(1);
@@ -187,7 +177,7 @@ final class CountTest {
 
     /** 0, 1, 2 round; 3 waits for one of them, but for itself not. */
     private static void roundOfOthers() {
-        QuorumGate x = alone(4);
+        QuorumGate x = Gates.alone(4);
         x.base(0, 1 | 2);
         x.base(1, 2 | 4);
         x.base(2, 4 | 1);
@@ -284,7 +274,7 @@ final class CountTest {
     }
 
     private static void theBookIsFull() {
-        QuorumGate x = alone(2);
+        QuorumGate x = Gates.alone(2);
         for (int i = 1; i <= 35; i++) {
             enterAlone(x, 0);
             x.leave(0);
@@ -442,7 +432,7 @@ final class CountTest {
     }
 
     private static void theTraceIsFull() {
-        QuorumGate x = alone(2);
+        QuorumGate x = Gates.alone(2);
         for (int i = 1; i <= 23; i++) {
             x.ask(1);
             x.bring(1, 1);

@@ -35,24 +35,9 @@ final class TrialTest {
         Check.end("TrialTest");
     }
 
-    /** So many nodes, each alone in its base. */
-    private static QuorumGate alone(int n) {
-        QuorumGate x = new QuorumGate();
-        x.majority(n);
-        for (int v = 0; v < n; v++) {
-            x.base(v, 1 << v);
-        }
-        return x;
-    }
-
     /** So many nodes, one in all bases. */
     private static QuorumGate all(int n, int arbiter) {
-        QuorumGate x = new QuorumGate();
-        x.majority(n);
-        for (int v = 0; v < n; v++) {
-            x.base(v, 1 << arbiter);
-        }
-        return x;
+        return Gates.like(n, 1 << arbiter);
     }
 
     private static void traced(QuorumGate x, int ago, int kind, int from, int to) {
@@ -105,7 +90,7 @@ final class TrialTest {
 
     /** Leaving comes behind all pairs, rising. */
     private static void leavingByDraw() {
-        QuorumGate x = alone(3);
+        QuorumGate x = Gates.alone(3);
         for (int v = 1; v < 3; v++) {
             x.ask(v);
             x.bring(v, v);
@@ -159,7 +144,7 @@ final class TrialTest {
 
     /** What was asked and withdrawn 166 times takes 3 moves each; then 2 more. */
     private static void entersByTheLast() {
-        QuorumGate x = alone(2);
+        QuorumGate x = Gates.alone(2);
         for (int i = 0; i < 166; i++) {
             x.ask(0);
             x.withdraw(0);
@@ -188,7 +173,7 @@ final class TrialTest {
 
     /** States in a row: REQUEST, GRANT, inside, RELEASE, nothing. */
     private static void searchedOne() {
-        QuorumGate x = alone(2);
+        QuorumGate x = Gates.alone(2);
         searched(x, "nothing", -1, 40, 1, 0, 0, 0, 1, 0);
         searched(x, "nothing", -1, 1, 1, 0, 0, 0, 1, 0);
         x.ask(0);
@@ -202,7 +187,7 @@ final class TrialTest {
 
     /** Two that have nothing to do with each other: 5 by 5 states, with asking 6 by 6. */
     private static void searchedTwo() {
-        QuorumGate x = alone(2);
+        QuorumGate x = Gates.alone(2);
         searched(x, "both may ask", 3, 40, 36, 1, 0, 2, 1, 10);
         searched(x, "both may ask", 3, 36, 36, 1, 0, 2, 1, 10);
         // One by one they are met by moves: 1, 2, 3, 4, 5, 6, 5, 4, 3, 2, 1.
@@ -213,7 +198,7 @@ final class TrialTest {
         searched(x, "nobody may", 0, 40, 1, 0, 0, 0, 1, 0);
         x.breakDown(1);
         searched(x, "a broken one can't", 3, 40, 6, 0, 0, 1, 1, 5);
-        QuorumGate y = alone(2);
+        QuorumGate y = Gates.alone(2);
         y.ask(0);
         y.ask(1);
         searched(y, "both ask", -1, 40, 25, 1, 0, 2, 1, 8);
@@ -226,7 +211,7 @@ final class TrialTest {
 
     /** Who is in may ask again once, by the stamp of now; the RELEASE may be on the way still. */
     private static void searchedByThoseWhoAsked() {
-        QuorumGate x = alone(2);
+        QuorumGate x = Gates.alone(2);
         x.ask(0);
         searched(x, "once more", 1, 40, 11, 0, 0, 2, 1, 9);
         searched(x, "not more", -1, 40, 5, 0, 0, 1, 1, 4);
@@ -260,7 +245,7 @@ final class TrialTest {
         Check.due("all were met", x.searched(40, 4), 1);
         Check.due("two inside", x.searched(40, 1), 0);
         Check.due("stuck", x.searched(40, 2), 0);
-        QuorumGate y = alone(2);
+        QuorumGate y = Gates.alone(2);
         y.ask(0);
         y.withdraw(0);
         y.ask(0);
@@ -269,7 +254,7 @@ final class TrialTest {
     }
 
     private static void soonest() {
-        QuorumGate x = alone(2);
+        QuorumGate x = Gates.alone(2);
         Check.due("nobody asks", x.soonest(0, 40), -1);
         x.ask(0);
         Check.due("by two", x.soonest(0, 40), 2);
@@ -284,7 +269,7 @@ final class TrialTest {
         for (int v : WRONG) {
             Check.due("soonest(" + v + ", 40)", x.soonest(v, 40), -1);
         }
-        QuorumGate y = alone(2);
+        QuorumGate y = Gates.alone(2);
         y.ask(0);
         y.ask(1);
         y.bring(1, 1);
@@ -293,7 +278,7 @@ final class TrialTest {
     }
 
     private static void delays() {
-        QuorumGate x = alone(2);
+        QuorumGate x = Gates.alone(2);
         Check.due("way 1", x.delay(0, 0, 1), true);
         Check.due("way 9", x.delay(0, 1, 9), true);
         for (int way : new int[] {-1, 0, 10, 11, Integer.MAX_VALUE, Integer.MIN_VALUE}) {
@@ -325,7 +310,7 @@ final class TrialTest {
     }
 
     private static void timedOne() {
-        QuorumGate x = alone(2);
+        QuorumGate x = Gates.alone(2);
         timed(x, "nothing", 5, 0, 0, 0, -1, -1, 1);
         x.ask(0);
         timed(x, "one", 1, 0, 4, 1, 2, 2, 4);
@@ -339,7 +324,7 @@ final class TrialTest {
     }
 
     private static void timedInside() {
-        QuorumGate x = alone(2);
+        QuorumGate x = Gates.alone(2);
         x.ask(0);
         x.goOn(0, 2);
         Check.due("inside", x.is(2), 1);
@@ -352,12 +337,12 @@ final class TrialTest {
     }
 
     private static void timedOnTheWay() {
-        QuorumGate x = alone(2);
+        QuorumGate x = Gates.alone(2);
         x.ask(0);
         x.bring(0, 0);
         x.delay(0, 0, 4);
         timed(x, "letters there go at 0", 1, 0, 9, 1, 4, 4, 4 + 5);
-        QuorumGate y = alone(2);
+        QuorumGate y = Gates.alone(2);
         y.ask(0);
         y.goOn(0, 2);
         y.leave(0);
@@ -443,7 +428,7 @@ final class TrialTest {
     }
 
     private static void crowds() {
-        QuorumGate x = alone(2);
+        QuorumGate x = Gates.alone(2);
         crowd(x, 1, 0, 0, 0, 0, 0, 0, 0);
         // (0, 0): GRANT.
         crowd(x, 1, 1, 0, 0, 0, 0, 3, 0);
@@ -460,7 +445,7 @@ final class TrialTest {
     }
 
     private static void crowdsWithBroken() {
-        QuorumGate x = alone(2);
+        QuorumGate x = Gates.alone(2);
         x.breakDown(1);
         crowd(x, 1, 10, 3, 3, 3, 0, 3 + 3 + 2, 3);
         x.mend(1);
@@ -474,7 +459,7 @@ final class TrialTest {
     }
 
     private static void crowdsInside() {
-        QuorumGate x = alone(2);
+        QuorumGate x = Gates.alone(2);
         x.ask(0);
         x.goOn(0, 2);
         crowd(x, 1, 2, 1, 0, 1, 1, 2, 2);
@@ -489,7 +474,7 @@ final class TrialTest {
     }
 
     private static void crowdsFromTheBeginning() {
-        QuorumGate x = alone(2);
+        QuorumGate x = Gates.alone(2);
         x.ask(1);
         for (int i = 0; i < 10; i++) {
             x.ask(0);
@@ -503,7 +488,7 @@ final class TrialTest {
         Check.due("1 waited", x.is(9), 32);
         Check.due("from the beginning on", x.crowd(1, 10, 5), 32);
         Check.due("from the beginning on", x.crowd(1, 0, 5), 32);
-        QuorumGate y = alone(2);
+        QuorumGate y = Gates.alone(2);
         y.ask(1);
         y.ask(0);
         y.bring(0, 0);
@@ -526,28 +511,6 @@ final class TrialTest {
         Check.due("one at a time", x.crowd(Integer.MAX_VALUE, 500, 3), 0);
     }
 
-    private static String all(QuorumGate x) {
-        StringBuilder s = new StringBuilder();
-        int n = x.is(0);
-        for (int what = 0; what <= 12; what++) {
-            s.append(x.is(what)).append(' ');
-        }
-        for (int v = 0; v < n; v++) {
-            for (int what = 0; what <= 7; what++) {
-                s.append(x.node(v, what)).append(' ');
-            }
-            for (int what = 0; what <= 3; what++) {
-                s.append(x.arbiter(v, what)).append(' ');
-            }
-            s.append(x.waiting(v, 0, 0)).append(' ').append(x.handled(v)).append(' ').append(x.quorum(v, 2)).append(' ');
-            for (int u = 0; u < n; u++) {
-                s.append(x.way(u, v, -1)).append(' ').append(x.way(u, v, 0)).append(' ');
-            }
-        }
-        s.append(x.book(-1, 0)).append(' ').append(x.trace(-1, 0)).append(' ').append(x.trace(0, 3));
-        return s.append(' ').append(x.sent(6)).append(' ').append(x.mean()).toString();
-    }
-
     /** Each of those that only tell what would be leaves all as it is, and answers the same again. */
     private static void nothingIsChanged() {
         for (int what = 0; what < 6; what++) {
@@ -558,7 +521,7 @@ final class TrialTest {
             x.ask(0);
             x.goOn(5, 4);
             x.delay(0, 1, 4);
-            String before = all(x);
+            String before = Told.of(x);
             for (int again = 0; again < 2; again++) {
                 Check.due("entersBy", x.entersBy(1, 3), x.entersBy(1, 3));
                 Check.due("searched", x.searched(40, what), x.searched(40, what));
@@ -567,7 +530,7 @@ final class TrialTest {
                 Check.due("timed", x.timed(4, 1, what), x.timed(4, 1, what));
                 Check.due("crowd", x.crowd(9, 300, what), x.crowd(9, 300, what));
             }
-            Check.isTrue("all is as ahead", before.equals(all(x)));
+            Check.isTrue("all is as ahead", before.equals(Told.of(x)));
         }
     }
 }
