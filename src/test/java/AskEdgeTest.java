@@ -2,14 +2,7 @@
  * The edges that Terms II and promises 23 to 40 name: nobody, everybody, first, last, full, too far, refused.
  * Each test bears the words it holds the program to.
  */
-final class AskEdgeTest {
-    private static final int REQUEST = 0;
-    private static final int GRANT = 1;
-    private static final int FAIL = 2;
-    private static final int INQUIRE = 3;
-    private static final int YIELD = 4;
-    private static final int RELEASE = 5;
-
+final class AskEdgeTest extends Seen {
     private static final int MIN = Integer.MIN_VALUE;
     private static final int MAX = Integer.MAX_VALUE;
     private static final int[] NO_NODES = {MIN, -2, -1, 4, 5, 16, 31, 32, MAX};
@@ -53,17 +46,6 @@ final class AskEdgeTest {
         refusedNodes();
         refusedWhats();
         Check.end("AskEdgeTest");
-    }
-
-    private static void bring(QuorumGate x, int from, int to, int kind) {
-        Check.due("bring(" + from + ", " + to + ")", x.bring(from, to), kind);
-    }
-
-    private static void asker(QuorumGate x, int node, int how, int votes, int doubts, int fails) {
-        Check.due("how " + node + " is", x.node(node, 0), how);
-        Check.due("votes of " + node, x.node(node, 3), votes);
-        Check.due("doubts of " + node, x.node(node, 4), doubts);
-        Check.due("fails of " + node, x.node(node, 5), fails);
     }
 
     /** To ASK, being IDLE, not BROKEN, with a QUORUM. NONE: it can't be. */
