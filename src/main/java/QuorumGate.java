@@ -11,7 +11,7 @@ public final class QuorumGate {
     private static final int MOST_ODDS = 10;
     private static final int LONGEST_HOLD = 20;
     private static final int LONGEST_WAY = 9;
-    private static final int LAST_TIME = 300;
+    private static final int NOT_OVER = 300;
     private static final int HELD_ENTRIES = 30;
     private static final int HELD_BRINGINGS = 40;
 
@@ -1706,11 +1706,10 @@ public final class QuorumGate {
         }
 
         void run(Hall hall, int hold) {
-            end = 0;
+            end = NOT_OVER;
             lastEntry = NONE;
             emptyTimes = 0;
-            boolean over = false;
-            for (int time = 0; time <= LAST_TIME && !over; time++) {
+            for (int time = 0; time < NOT_OVER && end == NOT_OVER; time++) {
                 int before = hall.entries;
                 hall.post.now = time;
                 leaveWhoCameBy(hall, time - hold);
@@ -1718,10 +1717,11 @@ public final class QuorumGate {
                 for (int way = Math.min(LONGEST_WAY, time); way >= 1; way--) {
                     bringDue(hall, way, time - way);
                 }
-                end = time;
                 lastEntry = hall.entries > before ? time : lastEntry;
                 emptyTimes += hall.inside == 0 ? 1 : 0;
-                over = hall.inside == 0 && hall.post.total == 0;
+                if (hall.inside == 0 && hall.post.total == 0) {
+                    end = time;
+                }
             }
         }
 

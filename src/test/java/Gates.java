@@ -28,6 +28,16 @@ final class Gates {
         return x;
     }
 
+    /** So many of FILLED 16 have asked, rising. */
+    static QuorumGate allAsked(int many) {
+        QuorumGate x = new QuorumGate();
+        x.filled(16);
+        for (int v = 0; v < many; v++) {
+            x.ask(v);
+        }
+        return x;
+    }
+
     /** A call that answers as is due and leaves all as it is. */
     static void unchanged(String call, QuorumGate x, Call c, long due) {
         String before = Told.of(x);

@@ -1134,7 +1134,7 @@ final class Model {
         int before = entries;
         int nobody = 0;
         int t = 0;
-        while (true) {
+        while (t < 300) {
             c.time = t;
             for (int u = 0; u < n(); u++) {
                 if (c.nodes.get(u).how == 2 && c.nodes.get(u).cameAt + hold == t) {
@@ -1154,9 +1154,6 @@ final class Model {
                 if (c.letters.isEmpty()) {
                     break;
                 }
-            }
-            if (t == 300) {
-                break;
             }
             t++;
         }

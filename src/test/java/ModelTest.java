@@ -35,6 +35,7 @@ final class ModelTest {
         int first = args.length > 1 ? Integer.parseInt(args[1]) : 1;
         for (int seed = first; seed < first + runs && !Check.failed(); seed++) {
             run(seed);
+            longByClock(seed);
         }
         Check.end("ModelTest");
     }
@@ -62,6 +63,34 @@ final class ModelTest {
                 System.out.println(told);
             }
             compareAll(seed, i, x, y, r);
+        }
+    }
+
+    /** Many that ask one behind the other, so that the clock comes near TIME 300 or isn't over by then. */
+    private static void longByClock(int seed) {
+        Random r = new Random(seed);
+        QuorumGate x = new QuorumGate();
+        Model y = new Model();
+        int n = 12 + r.nextInt(5);
+        boolean filled = r.nextBoolean();
+        Check.due("nodes", filled ? x.filled(n) : x.majority(n), filled ? y.filled(n) : y.majority(n));
+        for (int i = r.nextInt(20); i > 0; i--) {
+            int from = r.nextInt(n);
+            int to = r.nextInt(n);
+            int way = 1 + r.nextInt(9);
+            Check.due("delay", x.delay(from, to, way), y.delay(from, to, way));
+        }
+        for (int v = 0; v < n; v++) {
+            Check.due("ask", x.ask(v), y.ask(v));
+        }
+        int moves = r.nextInt(3) * r.nextInt(40);
+        Check.due("goOn", x.goOn(seed, moves), y.goOn(seed, moves));
+        for (int hold = 15; hold <= 20; hold++) {
+            int node = r.nextInt(n);
+            for (int what = 0; what < 5; what++) {
+                Check.due("long run " + seed + ": timed(" + hold + ", " + node + ", " + what + ")",
+                    x.timed(hold, node, what), y.timed(hold, node, what));
+            }
         }
     }
 

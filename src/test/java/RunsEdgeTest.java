@@ -32,6 +32,7 @@ final class RunsEdgeTest {
         timedFirstAndLast();
         timedUpToThreeHundred();
         timedEntryAtThreeHundred();
+        timedLeavingAtThreeHundred();
         timedWithBroken();
         crowdNotAtAll();
         crowdToTheLast();
@@ -510,15 +511,15 @@ final class RunsEdgeTest {
         return x;
     }
 
-    /** Up to the TIME at which there are no LETTERS and nobody is INSIDE, or 300: that TIME (300: not yet). */
+    /** 300 is no TIME that is gone through: it tells that it isn't over by 299. */
     private static void timedUpToThreeHundred() {
         // The last one's RELEASE comes at 1 + 12 * 22 + 9 + 20 + 5, and each of 13 was in for 20.
         timed(oneBehindTheOther(13, 9, 4), "298", 20, 12, 298, 13, 274, 274, 299 - 260);
         timed(oneBehindTheOther(13, 9, 5), "299", 20, 12, 299, 13, 274, 274, 300 - 260);
-        timed(oneBehindTheOther(13, 9, 6), "300", 20, 12, 300, 13, 274, 274, 301 - 260);
-        timed(oneBehindTheOther(13, 9, 7), "not yet", 20, 12, 300, 13, 274, 274, 301 - 260);
-        timed(oneBehindTheOther(16, 1, 1), "not yet", 20, 15, 300, 14, 288, -1, 301 - 13 * 20 - 13);
-        timed(oneBehindTheOther(16, 1, 1), "not yet", 20, 0, 300, 14, 288, 2, 301 - 13 * 20 - 13);
+        timed(oneBehindTheOther(13, 9, 6), "300", 20, 12, 300, 13, 274, 274, 300 - 260);
+        timed(oneBehindTheOther(13, 9, 7), "301", 20, 12, 300, 13, 274, 274, 300 - 260);
+        timed(oneBehindTheOther(16, 1, 1), "not yet", 20, 15, 300, 14, 288, -1, 300 - 13 * 20 - 12);
+        timed(oneBehindTheOther(16, 1, 1), "not yet", 20, 0, 300, 14, 288, 2, 300 - 13 * 20 - 12);
     }
 
     private static void timedEntryAtThreeHundred() {
@@ -527,9 +528,24 @@ final class RunsEdgeTest {
             QuorumGate x = oneBehindTheOther(14, 9, 1);
             x.delay(0, 12, more);
             int due = 288 + 8 + more - 1;
-            boolean yet = due <= 300;
+            boolean yet = due <= 299;
             timed(x, "at " + due, 20, 13, 300, yet ? 14 : 13, yet ? due : 266 + more - 1, yet ? due : -1,
-                301 - 260 - (yet ? 301 - due : 0));
+                300 - 260 - (yet ? 300 - due : 0));
+        }
+    }
+
+    private static void timedLeavingAtThreeHundred() {
+        // In at 2, and each 2 and HOLD behind the one ahead of it: by 18 the fifteenth leaves at 300.
+        timed(Gates.allAsked(15), "300", 18, 14, 300, 15, 282, 282, 30);
+        timed(Gates.allAsked(16), "300", 18, 15, 300, 15, 282, -1, 30);
+        // The thirteenth comes at 274, by the way of the one ahead of it later; its RELEASE comes behind 300.
+        for (int more = 0; more <= 8; more++) {
+            QuorumGate x = oneBehindTheOther(13, 9, 9);
+            x.delay(0, 11, 1 + more);
+            int leaves = 294 + more;
+            boolean yet = leaves <= 299;
+            timed(x, "out at " + leaves, 20, 12, 300, 13, leaves - 20, leaves - 20,
+                300 - 12 * 20 - (yet ? 20 : 300 - (leaves - 20)));
         }
     }
 
